@@ -16,6 +16,7 @@ public final class CodeTest {
         jumpsToNoInstruction();
         jumpsToInstructions();
         badJumpsComeInOrder();
+        earlierSubmitsDoNotCount();
         Check.end();
     }
 
@@ -123,6 +124,12 @@ public final class CodeTest {
         jump("JZERO onto an operand", 8, PUSH, 0, JZERO, 1, PUSH, 1, RETURN);
         jump("JZERO before the code", 8, PUSH, 0, JZERO, 251, PUSH, 1, RETURN);
         jump("JUMP that no way reaches", 9, PUSH, 1, RETURN, JUMP, 0);
+        int[] full = new int[32];
+        full[30] = JUMP;
+        int[] last = Plugins.plugin(Plugins.NO_IMPORTS, Plugins.function(0, 0, new int[40]), Plugins.function(0, 0, new int[36]),
+            Plugins.function(0, 0, full));
+        Check.due("the bytes of the longest plugin", last.length, 120);
+        Plugins.submit("JUMP past the 120th byte", last, PluginHost.BADJUMP, 118);
     }
 
     private static void jumpsToInstructions() {
@@ -140,5 +147,15 @@ public final class CodeTest {
             Plugins.function(0, 0, JUMP, 9)), PluginHost.BADJUMP, 8);
         Plugins.submit("before a bad flow of an earlier function", Plugins.plugin(Plugins.NO_IMPORTS,
             Plugins.function(0, 0, POP), Plugins.function(0, 0, JUMP, 9)), PluginHost.BADJUMP, 10);
+    }
+
+    /** The first plugin has an instruction where the second one has an operand. */
+    private static void earlierSubmitsDoNotCount() {
+        PluginHost host = new PluginHost();
+        Plugins.put(host, Plugins.single(0, 0, PUSH, 1, Plugins.DUP, Plugins.DUP, Plugins.DUP, RETURN));
+        Check.due("submit()", host.submit(), PluginHost.ACCEPTED);
+        Plugins.put(host, Plugins.single(0, 0, JUMP, 1, PUSH, 1, RETURN));
+        Check.due("submit()", host.submit(), PluginHost.BADJUMP);
+        Check.due("place()", host.place(), 6);
     }
 }

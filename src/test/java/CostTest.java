@@ -17,6 +17,7 @@ public final class CostTest {
         endlessLoops();
         blocksArePaidBeforehand();
         quotaIsKeptBetweenCalls();
+        everyPluginHasItsOwnBlocks();
         Check.end();
     }
 
@@ -123,5 +124,19 @@ public final class CostTest {
         Check.due("left(0)", host.left(0), 1);
         Plugins.call("third", host, 0, 0, 0, PluginHost.QUOTA, 0);
         Check.due("left(0)", host.left(0), 1);
+    }
+
+    /** The same bytes but for a jump: only in the first plugin a block begins in the midst. */
+    private static void everyPluginHasItsOwnBlocks() {
+        PluginHost host = Plugins.hostWith(10, Plugins.single(0, 0, PUSH, 1, POP, PUSH, 2, RETURN, JUMP, 250));
+        Plugins.put(host, Plugins.single(0, 0, PUSH, 1, POP, PUSH, 2, RETURN, PUSH, 250));
+        Check.due("submit()", host.submit(), PluginHost.ACCEPTED);
+        Check.due("unload(0) with a sandbox", host.unload(0), false);
+        Check.due("open(1, 3)", host.open(1, 3), 1);
+        Check.due("open(0, 3)", host.open(0, 3), 2);
+        Check.due("call(1, 0, 0, 0)", host.call(1, 0, 0, 0), PluginHost.QUOTA);
+        Check.due("left(1)", host.left(1), 3);
+        Check.due("call(2, 0, 0, 0)", host.call(2, 0, 0, 0), PluginHost.QUOTA);
+        Check.due("left(2)", host.left(2), 2);
     }
 }

@@ -16,6 +16,8 @@ public final class InstructionTest {
         calls();
         statics();
         localsAreFreshInEveryActivation();
+        activationsAreApart();
+        stacksAreEmptyAtFirst();
         pluginsKeepTheirOwnCode();
         Check.end();
     }
@@ -128,6 +130,36 @@ public final class InstructionTest {
         Plugins.call("called twice", host, 0, 0, 0, PluginHost.RETURNED, 5);
         Plugins.call("called from outside", host, 1, 0, 0, PluginHost.RETURNED, 0);
         Plugins.call("called from outside again", host, 1, 7, 7, PluginHost.RETURNED, 0);
+    }
+
+    /** Six activations, every other one with five locals that are read again after the next one has run. */
+    private static void activationsAreApart() {
+        int[] fill = Plugins.function(2, 3, LOAD, 0, STORE, 2, LOAD, 0, STORE, 3, LOAD, 0, STORE, 4,
+            LOAD, 1, LOAD, 2, LOAD, 3, LOAD, 4, LOAD, 1, LOAD, 0, CALL, 1, ADD, ADD, ADD, ADD, LOAD, 4, ADD, RETURN);
+        int[] further = Plugins.function(2, 0, LOAD, 0, JZERO, 13, LOAD, 1, PUSH, 10, MUL, LOAD, 0, PUSH, 1, SUB, CALL, 0,
+            RETURN, PUSH, 0, RETURN);
+        PluginHost host = Plugins.hostWith(2000, Plugins.plugin(Plugins.NO_IMPORTS, fill, further));
+        Plugins.call("one", host, 0, 1, 0, PluginHost.RETURNED, 4);
+        Plugins.call("two", host, 0, 1, 1, PluginHost.RETURNED, 1 + 4 + 40);
+        Plugins.call("three", host, 0, 1, 2, PluginHost.RETURNED, 2 + 4 + 1 + 40 + 400);
+        Plugins.call("four", host, 0, 1, 3, PluginHost.DEEP, 0);
+        sixFullStacks();
+    }
+
+    private static void sixFullStacks() {
+        int[] code = {LOAD, 0, JZERO, 17, LOAD, 0, DUP, DUP, DUP, LOAD, 0, PUSH, 1, SUB, CALL, 0, ADD, ADD, ADD, ADD, RETURN,
+            PUSH, 1, DUP, DUP, DUP, DUP, DUP, ADD, ADD, ADD, ADD, ADD, RETURN};
+        PluginHost host = Plugins.hostWith(2000, Plugins.single(1, 0, code));
+        Plugins.call("six activations, the last with six entries", host, 0, 5, 0, PluginHost.RETURNED, 4 * (1 + 2 + 3 + 4 + 5) + 6);
+    }
+
+    private static void stacksAreEmptyAtFirst() {
+        int[] sum = {PUSH, 1, PUSH, 2, PUSH, 3, PUSH, 4, PUSH, 5, LOAD, 0, DIV, ADD, ADD, ADD, ADD, RETURN};
+        PluginHost host = Plugins.hostWith(2000, Plugins.single(1, 0, sum));
+        for (int i = 0; i < 40; i++) {
+            Plugins.call("leaves five entries behind", host, 0, 0, 0, PluginHost.DIVIDE, 0);
+        }
+        Plugins.call("starts without them", host, 0, 1, 0, PluginHost.RETURNED, 15);
     }
 
     private static void pluginsKeepTheirOwnCode() {

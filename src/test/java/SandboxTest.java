@@ -153,5 +153,26 @@ public final class SandboxTest {
         Check.due("call(0, 0, 1, 0)", host.call(0, 0, 1, 0), PluginHost.RETURNED);
         Check.due("call(1, 0, 1, 0)", host.call(1, 0, 1, 0), PluginHost.RETURNED);
         Check.due("unload(1)", host.unload(1), false);
+        everySandboxHoldsItsPlugin();
+    }
+
+    private static void everySandboxHoldsItsPlugin() {
+        PluginHost host = withPlugin();
+        for (int x = 0; x < 4; x++) {
+            open(host, 0, x, x);
+        }
+        for (int kept = 0; kept < 4; kept++) {
+            for (int x = 0; x < 4; x++) {
+                if (x != kept) {
+                    Check.due("close(" + x + ")", host.close(x), true);
+                }
+            }
+            Check.due("unload(0) while sandbox " + kept + " is open", host.unload(0), false);
+            for (int x = 0; x < 4; x++) {
+                if (x != kept) {
+                    open(host, 0, x, x);
+                }
+            }
+        }
     }
 }
