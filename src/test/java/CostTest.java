@@ -22,7 +22,7 @@ public final class CostTest {
     }
 
     /** The costs of the blocks in the order they are entered; with every lesser quota the call ends before the block it lacks. */
-    private static void costs(String name, int[] plugin, int a, int... blocks) {
+    static void costs(String name, int[] plugin, int a, int... blocks) {
         int all = 0;
         for (int cost : blocks) {
             all += cost;

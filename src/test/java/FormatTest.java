@@ -49,22 +49,9 @@ public final class FormatTest {
             Plugins.function(0, 0, 0, 1, 16)), ok, -1);
         Plugins.submit("4 functions", Plugins.plugin(Plugins.NO_IMPORTS, Plugins.function(2, 3, 0, 1, 16),
             Plugins.function(0, 0, 0, 1, 16), Plugins.function(1, 2, 0, 1, 16), Plugins.function(2, 0, 0, 1, 16)), ok, -1);
-        Plugins.submit("40 bytes of code", Plugins.single(0, 0, codeOf(40)), ok, -1);
+        Plugins.submit("40 bytes of code", Plugins.single(0, 0, Plugins.codeOf(40)), ok, -1);
         Plugins.submit("1 byte of code", Plugins.single(0, 0, 16), PluginHost.BADFLOW, 6);
-        int[] longest = Plugins.plugin(new int[][] {{1, 1, 1}}, Plugins.function(0, 0, codeOf(40)),
-            Plugins.function(0, 0, codeOf(40)), Plugins.function(0, 0, codeOf(25)));
-        Check.due("the bytes of the longest plugin", longest.length, 120);
-        Plugins.submit("120 bytes", longest, ok, -1);
-    }
-
-    /** Code of that length: an entry, doubled and taken off over and over, then answered. */
-    private static int[] codeOf(int length) {
-        int[] code = new int[length];
-        for (int at = 2; at < length - 1; at++) {
-            code[at] = at % 2 == 0 ? Plugins.DUP : Plugins.POP;
-        }
-        code[length - 1] = Plugins.RETURN;
-        return code;
+        Plugins.submit("120 bytes", Plugins.longest(), ok, -1);
     }
 
     private static void trailing() {

@@ -42,6 +42,23 @@ final class Plugins {
         return plugin(NO_IMPORTS, function(parameters, further, code));
     }
 
+    /** Good code of that length, 3 or more: an entry, doubled and taken off over and over, then answered. */
+    static int[] codeOf(int length) {
+        int[] code = new int[length];
+        for (int at = 2; at < length - 1; at++) {
+            code[at] = at % 2 == 0 ? DUP : POP;
+        }
+        code[length - 1] = RETURN;
+        return code;
+    }
+
+    /** A good plugin of 120 bytes. */
+    static int[] longest() {
+        int[] plugin = plugin(new int[][] {{7, 0, 7}}, function(0, 0, codeOf(40)), function(0, 0, codeOf(40)), function(0, 0, codeOf(25)));
+        Check.due("the bytes of the longest plugin", plugin.length, 120);
+        return plugin;
+    }
+
     static int[] bytes(int... all) {
         return all;
     }
