@@ -127,8 +127,10 @@ public final class EdgeCallTest {
         Check.sentence("nothing changes then");
         for (int f = 0; f <= 1; f++) {
             int function = f;
-            Twins.unchanged("call(0, " + f + ", 6, 2)", EdgeCallTest::busyAndDenied, host -> call(host, 0, function, 6, 2, PluginHost.BLOCKED));
-            Twins.unchanged("call(2, " + f + ", 6, 0)", EdgeCallTest::busyAndDenied, host -> call(host, 2, function, 6, 0, PluginHost.BLOCKED));
+            Twins.unchanged("call(0, " + f + ", 6, 2)", EdgeCallTest::busyAndDenied,
+                host -> call(host, 0, function, 6, 2, PluginHost.BLOCKED));
+            Twins.unchanged("call(2, " + f + ", 6, 0)", EdgeCallTest::busyAndDenied,
+                host -> call(host, 2, function, 6, 0, PluginHost.BLOCKED));
         }
         PluginHost host = busyAndDenied();
         call(host, 0, 0, 6, 2, PluginHost.BLOCKED);
@@ -213,7 +215,8 @@ public final class EdgeCallTest {
     private static void resultAfterEachEnding() {
         Check.sentence("after RETURNED the answer, else 0");
         int[] divide = Plugins.function(2, 0, LOAD, 0, LOAD, 1, DIV, RETURN);
-        PluginHost host = Plugins.hostWith(2000, Plugins.plugin(Plugins.NO_IMPORTS, DOWN, divide, Plugins.function(0, 0, Plugins.JUMP, 254)));
+        int[] endless = Plugins.function(0, 0, Plugins.JUMP, 254);
+        PluginHost host = Plugins.hostWith(2000, Plugins.plugin(Plugins.NO_IMPORTS, DOWN, divide, endless));
         for (int answer : new int[] {MIN, -1, 0, 1, MAX}) {
             Plugins.call("RETURNED", host, 1, answer, 1, PluginHost.RETURNED, answer);
             Plugins.call("DIVIDE", host, 1, answer, 0, PluginHost.DIVIDE, 0);

@@ -138,7 +138,8 @@ public final class EdgeCodeTest {
             for (int later = f; later < 4; later++) {
                 functions[later] = bad;
             }
-            Plugins.submit("bad from function " + f + " on", Plugins.plugin(Plugins.NO_IMPORTS, functions), BADCODE, 6 + f * GOOD.length + 2);
+            int first = 3 + f * GOOD.length + 3;
+            Plugins.submit("bad from function " + f + " on", Plugins.plugin(Plugins.NO_IMPORTS, functions), BADCODE, first + 2);
         }
     }
 
@@ -208,12 +209,13 @@ public final class EdgeCodeTest {
 
     private static void targetsInOtherFunctions() {
         Check.sentence("goes to no instruction of its function");
-        // With heads of 3 and codes of 2 or 3, these reach the first instruction of the function after and before.
-        Plugins.submit("into the function after", Plugins.plugin(Plugins.NO_IMPORTS, Plugins.function(0, 0, JUMP, 3), GOOD), BADJUMP, 6);
-        Plugins.submit("into the function before", Plugins.plugin(Plugins.NO_IMPORTS, GOOD, Plugins.function(0, 0, JUMP, 248)), BADJUMP, 12);
-        Plugins.submit("to the RETURN of the function before",
-            Plugins.plugin(Plugins.NO_IMPORTS, GOOD, Plugins.function(0, 0, JUMP, 250)), BADJUMP, 12);
-        Plugins.submit("to the function's own head", Plugins.plugin(Plugins.NO_IMPORTS, GOOD, Plugins.function(0, 0, JUMP, 253)), BADJUMP, 12);
+        // Heads have 3 bytes and GOOD has 3 of code, so these go to the first or last instruction of the other function.
+        int[] before = Plugins.plugin(Plugins.NO_IMPORTS, Plugins.function(0, 0, JUMP, 3), GOOD);
+        Plugins.submit("to the first instruction of the function after", before, BADJUMP, 6);
+        jumpBehindGood("to the first instruction of the function before", 248);
+        jumpBehindGood("to the RETURN of the function before", 250);
+        jumpBehindGood("to the function's own head", 251);
+        jumpBehindGood("to the length of the function's own code", 253);
         Plugins.submit("to the plugin's first byte", Plugins.single(0, 0, JUMP, 248), BADJUMP, 6);
         Plugins.submit("before the plugin's first byte", Plugins.single(0, 0, JUMP, 247), BADJUMP, 6);
         int[] longest = Plugins.longest();
@@ -221,6 +223,10 @@ public final class EdgeCodeTest {
         longest[118] = 1;
         longest[116] = DUP;
         Plugins.submit("past the 120th byte", longest, BADJUMP, 117);
+    }
+
+    private static void jumpBehindGood(String name, int b) {
+        Plugins.submit(name, Plugins.plugin(Plugins.NO_IMPORTS, GOOD, Plugins.function(0, 0, JUMP, b)), BADJUMP, 12);
     }
 
     private static void badJumpsInOrder() {
@@ -231,7 +237,8 @@ public final class EdgeCodeTest {
             for (int later = f; later < 4; later++) {
                 functions[later] = bad;
             }
-            Plugins.submit("bad from function " + f + " on", Plugins.plugin(Plugins.NO_IMPORTS, functions), BADJUMP, 6 + f * GOOD.length + 2);
+            int first = 3 + f * GOOD.length + 3;
+            Plugins.submit("bad from function " + f + " on", Plugins.plugin(Plugins.NO_IMPORTS, functions), BADJUMP, first + 2);
         }
     }
 }

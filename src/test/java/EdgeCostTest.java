@@ -23,11 +23,13 @@ public final class EdgeCostTest {
         lessThanTheCost();
         wholeQuota();
         quotaOfTheSandbox();
+        blocksOfThePlugin();
         Check.end();
     }
 
     private static void costs(String name, int a, int[] code, int... blocks) {
-        CostTest.costs(name, Plugins.plugin(IMPORT, Plugins.function(1, 0, code), Plugins.function(0, 0, PUSH, 1, DUP, POP, RETURN)), a, blocks);
+        int[] called = Plugins.function(0, 0, PUSH, 1, DUP, POP, RETURN);
+        CostTest.costs(name, Plugins.plugin(IMPORT, Plugins.function(1, 0, code), called), a, blocks);
     }
 
     private static int[] code(int... code) {
@@ -94,7 +96,8 @@ public final class EdgeCostTest {
         int[] large = Plugins.function(0, 0, Plugins.codeOf(20));
         CostTest.costs("a block before another function", Plugins.plugin(Plugins.NO_IMPORTS, small, large), 0, 2);
         CostTest.costs("a block before the end", Plugins.plugin(Plugins.NO_IMPORTS, large), 0, 19);
-        CostTest.costs("a block behind another function", Plugins.plugin(Plugins.NO_IMPORTS, Plugins.function(0, 0, CALL, 1, RETURN), small), 0, 1, 2, 1);
+        int[] calls = Plugins.function(0, 0, CALL, 1, RETURN);
+        CostTest.costs("a block behind another function", Plugins.plugin(Plugins.NO_IMPORTS, calls, small), 0, 1, 2, 1);
     }
 
     private static void numberOfInstructions() {
@@ -170,8 +173,8 @@ public final class EdgeCostTest {
         endless("a cost of 3", 2000 % 3, PUSH, 1, POP, JUMP, 251);
         endless("a cost of 8", 2000 % 8, PUSH, 1, HOST, 0, POP, JUMP, 249);
         endless("a cost of 1 and 3", 2000 % 4, JUMP, 0, PUSH, 1, POP, JUMP, 249);
-        int[] calls = Plugins.plugin(Plugins.NO_IMPORTS, Plugins.function(0, 0, CALL, 1, POP, JUMP, 251), Plugins.function(0, 0, PUSH, 1, RETURN));
-        PluginHost host = Plugins.hostWith(2000, calls);
+        PluginHost host = Plugins.hostWith(2000, Plugins.plugin(Plugins.NO_IMPORTS,
+            Plugins.function(0, 0, CALL, 1, POP, JUMP, 251), Plugins.function(0, 0, PUSH, 1, RETURN)));
         Plugins.call("a CALL over and over", host, 0, 0, 0, PluginHost.QUOTA, 0);
         Check.due("left(0)", host.left(0), 0);
         // Counting down from n takes 6 each time, 1 between two times and 2 at the end: 7 n + 1.
@@ -203,5 +206,27 @@ public final class EdgeCostTest {
                 Check.due("left(" + other + ")", host.left(other), 4 - other - (other <= x && other <= 2 ? 2 : 0));
             }
         }
+    }
+
+    /** Three plugins whose blocks lie differently, the third one with the number and the place of an earlier one. */
+    private static void blocksOfThePlugin() {
+        Check.sentence("The instructions of a function fall into blocks");
+        int[] cut = Plugins.single(0, 0, PUSH, 1, POP, PUSH, 2, RETURN, JUMP, 250);
+        int[] whole = Plugins.single(0, 0, PUSH, 1, POP, PUSH, 2, RETURN, PUSH, 250);
+        PluginHost host = Plugins.hostWith(3, cut);
+        Plugins.call("blocks of 1 and 3", host, 0, 0, 0, PluginHost.QUOTA, 0);
+        Check.due("left(0)", host.left(0), 2);
+        Plugins.put(host, whole);
+        Check.due("submit()", host.submit(), PluginHost.ACCEPTED);
+        Check.due("open(1, 3)", host.open(1, 3), 1);
+        Check.due("call(1, 0, 0, 0)", host.call(1, 0, 0, 0), PluginHost.QUOTA);
+        Check.due("left(1)", host.left(1), 3);
+        Check.due("close(0)", host.close(0), true);
+        Check.due("unload(0)", host.unload(0), true);
+        Plugins.put(host, whole);
+        Check.due("submit()", host.submit(), PluginHost.ACCEPTED);
+        Check.due("open(0, 4)", host.open(0, 4), 0);
+        Plugins.call("a block of 4", host, 0, 0, 0, PluginHost.RETURNED, 2);
+        Check.due("left(0)", host.left(0), 0);
     }
 }

@@ -13,6 +13,7 @@ public final class EdgeFlowTest {
 
     public static void main(String[] args) {
         tooFewEntries();
+        numberAfterEach();
         noRoom();
         pastTheLastByte();
         differentNumbers();
@@ -63,6 +64,35 @@ public final class EdgeFlowTest {
         needs("RETURN", 1, RETURN);
     }
 
+    /** From four entries the instruction leads to so many: as many POPs hold, one more doesn't. */
+    private static void leaves(String name, int left, int... instruction) {
+        for (int pops = left; pops <= left + 1; pops++) {
+            int[] code = Arrays.copyOf(instruction, instruction.length + pops);
+            Arrays.fill(code, instruction.length, code.length, POP);
+            flow(name + " and " + pops + " POPs", pops == left, reachedWith(4, code));
+        }
+    }
+
+    private static void numberAfterEach() {
+        Check.sentence("BADFLOW if some way reaches an instruction with too few entries: what the instructions before it take and add");
+        leaves("PUSH", 5, PUSH, 1);
+        leaves("LOAD", 5, LOAD, 0);
+        leaves("STORE", 3, STORE, 0);
+        for (int code = ADD; code <= LESS; code++) {
+            leaves("instruction " + code, 3, code);
+        }
+        leaves("DUP", 5, DUP);
+        leaves("POP", 3, POP);
+        leaves("JUMP", 4, JUMP, 0);
+        leaves("JZERO", 3, JZERO, 0);
+        leaves("CALL without parameters", 5, CALL, 3);
+        leaves("CALL with 1 parameter", 4, CALL, 1);
+        leaves("CALL with 2 parameters", 3, CALL, 2);
+        leaves("HOST", 4, HOST, 0);
+        leaves("GGET", 5, GGET, 0);
+        leaves("GSET", 3, GSET, 0);
+    }
+
     private static void withSix(String name, boolean holds, int... instruction) {
         flow(name + " with 6", holds, reachedWith(6, instruction));
         flow(name + " with 5", true, reachedWith(5, instruction));
@@ -91,7 +121,8 @@ public final class EdgeFlowTest {
 
     private static void pastTheLastByte() {
         Check.sentence("goes on past the function's last byte");
-        int[][] instructions = {{PUSH, 1}, {LOAD, 0}, {STORE, 0}, {ADD}, {LESS}, {DUP}, {POP}, {CALL, 1}, {CALL, 3}, {HOST, 0}, {GGET, 0}, {GSET, 0}};
+        int[][] instructions = {{PUSH, 1}, {LOAD, 0}, {STORE, 0}, {ADD}, {LESS}, {DUP}, {POP}, {CALL, 1}, {CALL, 3}, {HOST, 0},
+            {GGET, 0}, {GSET, 0}};
         for (int[] instruction : instructions) {
             int[] code = reachedWith(3, instruction);
             String name = "instruction " + instruction[0];

@@ -24,6 +24,7 @@ public final class EdgeSubmitTest {
 
     public static void main(String[] args) {
         orderOfTheChecks();
+        bytesOfNow();
         refusedAsAWhole();
         deniedImports();
         lowestFreeNumber();
@@ -70,6 +71,28 @@ public final class EdgeSubmitTest {
             Plugins.put(host, FINDINGS[i]);
             submit("finding " + FINDING_OF[i] + " without room", host, FINDING_OF[i], PLACE_OF[i], -1);
         }
+    }
+
+    /** Earlier bytes, taken or not, had instructions where these have none. */
+    private static void bytesOfNow() {
+        Check.sentence("Checks the bytes as a plugin.");
+        int[] dups = Plugins.single(0, 0, PUSH, 1, Plugins.DUP, Plugins.DUP, Plugins.DUP, RETURN);
+        int[] ontoAnOperand = Plugins.single(0, 0, JUMP, 1, PUSH, 1, RETURN);
+        PluginHost host = new PluginHost();
+        Plugins.put(host, dups);
+        submit("taken bytes", host, PluginHost.ACCEPTED, -1, 0);
+        Plugins.put(host, ontoAnOperand);
+        submit("after taken bytes", host, PluginHost.BADJUMP, 6, -1);
+        host = new PluginHost();
+        Plugins.put(host, dups);
+        host.put(0);
+        submit("refused bytes", host, PluginHost.TRAILING, dups.length, -1);
+        host.wipe();
+        Plugins.put(host, ontoAnOperand);
+        submit("after refused bytes", host, PluginHost.BADJUMP, 6, -1);
+        host.wipe();
+        Plugins.put(host, dups);
+        submit("the first bytes again", host, PluginHost.ACCEPTED, -1, 0);
     }
 
     private static void refusedAsAWhole() {

@@ -21,7 +21,9 @@ public final class EdgeValueTest {
         wholeValuesAreKept();
         localsInOrder();
         localsZeroAtFirst();
+        localsOfEachActivation();
         roomForSix();
+        emptyStackAtFirst();
         hostMemoryWraps();
         hostAnswers();
         Check.end();
@@ -172,12 +174,29 @@ public final class EdgeValueTest {
         Check.sentence("0 at first");
         int[] sum = {LOAD, 0, LOAD, 1, ADD, LOAD, 2, ADD, PUSH, 9, STORE, 0, PUSH, 9, STORE, 1, PUSH, 9, STORE, 2, RETURN};
         PluginHost host = Plugins.hostWith(2000, Plugins.plugin(Plugins.NO_IMPORTS, Plugins.function(0, 3, sum),
-            Plugins.function(0, 0, CALL, 0, CALL, 0, ADD, RETURN), Plugins.function(2, 3, PUSH, 8, STORE, 2, PUSH, 8, STORE, 4, CALL, 1, RETURN)));
+            Plugins.function(0, 0, CALL, 0, CALL, 0, ADD, RETURN),
+            Plugins.function(2, 3, LOAD, 4, PUSH, 8, STORE, 2, PUSH, 8, STORE, 4, CALL, 1, ADD, RETURN),
+            Plugins.function(0, 0, PUSH, 1, DUP, CALL, 2, PUSH, 1, DUP, CALL, 2, ADD, RETURN)));
         for (int round = 0; round < 3; round++) {
             Plugins.call("in a call", host, 0, 5, 5, PluginHost.RETURNED, 0);
             Plugins.call("in two calls from within", host, 1, 5, 5, PluginHost.RETURNED, 0);
             Plugins.call("in calls from further within", host, 2, 5, 5, PluginHost.RETURNED, 0);
+            Plugins.call("in five locals, twice from within", host, 3, 5, 5, PluginHost.RETURNED, 0);
         }
+    }
+
+    /** Every other activation has five locals, all set, which it adds up when the activations after it have ended. */
+    private static void localsOfEachActivation() {
+        Check.sentence("Locals are an activation's own");
+        int[] down = {LOAD, 0, STORE, 2, LOAD, 0, STORE, 3, PUSH, 100, STORE, 4, LOAD, 0, LOAD, 1, CALL, 1,
+            LOAD, 0, ADD, LOAD, 2, ADD, LOAD, 3, ADD, LOAD, 4, ADD, LOAD, 1, ADD, RETURN};
+        int[] next = {LOAD, 1, JZERO, 13, LOAD, 0, PUSH, 1, ADD, LOAD, 1, PUSH, 1, SUB, CALL, 0, RETURN, PUSH, 0, RETURN};
+        PluginHost host = Plugins.hostWith(2000, Plugins.plugin(Plugins.NO_IMPORTS,
+            Plugins.function(2, 3, down), Plugins.function(2, 0, next)));
+        Plugins.call("two activations", host, 0, 10, 0, PluginHost.RETURNED, 3 * 10 + 100);
+        Plugins.call("four activations", host, 0, 10, 1, PluginHost.RETURNED, 3 * (10 + 11) + 200 + 1);
+        Plugins.call("six activations", host, 0, 10, 2, PluginHost.RETURNED, 3 * (10 + 11 + 12) + 300 + 2 + 1);
+        Plugins.call("seven activations", host, 0, 10, 3, PluginHost.DEEP, 0);
     }
 
     private static void roomForSix() {
@@ -190,6 +209,21 @@ public final class EdgeValueTest {
         PluginHost host = Plugins.hostWith(2000, Plugins.plugin(Plugins.NO_IMPORTS, Plugins.function(1, 0, full),
             Plugins.function(1, 0, LOAD, 0, PUSH, 1, SUB, RETURN)));
         Plugins.call("six activations with full stacks", host, 0, 5, 0, PluginHost.RETURNED, 5 * (5 + 4 + 3 + 2 + 1) + 6);
+    }
+
+    /** What an activation left on its stack, however it ended, is not there for the next one. */
+    private static void emptyStackAtFirst() {
+        Check.sentence("An activation's stack is its own");
+        int[] divide = {PUSH, 1, PUSH, 2, PUSH, 3, PUSH, 4, PUSH, 5, LOAD, 0, DIV, ADD, ADD, ADD, ADD, RETURN};
+        int[] leave = {PUSH, 1, DUP, DUP, DUP, DUP, DUP, RETURN};
+        PluginHost host = Plugins.hostWith(2000, Plugins.plugin(Plugins.NO_IMPORTS, Plugins.function(1, 0, divide),
+            Plugins.function(0, 0, leave), Plugins.function(0, 0, CALL, 1, CALL, 1, ADD, PUSH, 1, CALL, 0, ADD, RETURN)));
+        for (int i = 0; i < 8; i++) {
+            Plugins.call("ends with entries left", host, 0, 0, 0, PluginHost.DIVIDE, 0);
+            Plugins.call("starts without them", host, 0, 1, 0, PluginHost.RETURNED, 15);
+            Plugins.call("answers with entries left", host, 1, 0, 0, PluginHost.RETURNED, 1);
+            Plugins.call("calls those", host, 2, 0, 0, PluginHost.RETURNED, 17);
+        }
     }
 
     private static BigInteger asked(BigInteger memory, int v, int a, int b, int c) {
