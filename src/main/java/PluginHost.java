@@ -1,7 +1,7 @@
 /**
  * A host for plugins that nobody trusts. Plugins come as bytes, are checked once when they are submitted, and run in
- * sandboxes. Because every way through the code is checked beforehand, the running part needs no checks of its own on
- * stack heights, locals, jump targets or operands.
+ * sandboxes. submit() looks at every operand and at where every instruction goes on to, so call() uses these as they are;
+ * what only running tells, heights and activations, is looked at where it changes.
  */
 public final class PluginHost {
     public static final int ACCEPTED = 0, CUT = 1, BADHEAD = 2, TRAILING = 3, BADCODE = 4, BADJUMP = 5, BADFLOW = 6, DENIED = 7, NOROOM = 8;
@@ -430,7 +430,7 @@ public final class PluginHost {
         if (at >= end) {
             return false;
         }
-        if (entries[at] == UNREACHED) {
+        if (entries[at] == UNREACHED && reachedCount < MAX_CODE) {
             entries[at] = height;
             reached[reachedCount] = at;
             reachedCount++;
@@ -631,7 +631,9 @@ public final class PluginHost {
                 locals[top * MAX_LOCALS + operand] = pop();
                 return GOES_ON;
             case OP_DUP:
-                push(stack[top * MAX_ENTRIES + heights[top] - 1]);
+                int doubled = pop();
+                push(doubled);
+                push(doubled);
                 return GOES_ON;
             case OP_POP:
                 pop();
@@ -662,14 +664,21 @@ public final class PluginHost {
         }
     }
 
+    // The flow check lets no plugin in that runs out of room or of entries; push() and pop() look all the same, so that
+    // no call throws even if it did.
     private void push(int value) {
         int top = activations - 1;
-        stack[top * MAX_ENTRIES + heights[top]] = value;
-        heights[top]++;
+        if (heights[top] < MAX_ENTRIES) {
+            stack[top * MAX_ENTRIES + heights[top]] = value;
+            heights[top]++;
+        }
     }
 
     private int pop() {
         int top = activations - 1;
+        if (heights[top] == 0) {
+            return 0;
+        }
         heights[top]--;
         return stack[top * MAX_ENTRIES + heights[top]];
     }
